@@ -814,7 +814,7 @@ public final class HullFoundry {
 
         /** The narrowest pair of planes either has a FACE in one of them or an EDGE in each. */
         void reckonSlit() {
-            if (slit.bottom > 0) {
+            if (kind != 4 || slit.bottom > 0) {
                 return;
             }
             for (int f = 0; f < faces; f++) {
@@ -849,6 +849,9 @@ public final class HullFoundry {
             long bx = corners.x[t] - corners.x[w];
             long by = corners.y[t] - corners.y[w];
             long bz = corners.z[t] - corners.z[w];
+            if (!isPassedBy(e, bx, by, bz) || !isPassedBy(g, ax, ay, az)) {
+                return;
+            }
             long nx = ay * bz - az * by;
             long ny = az * bx - ax * bz;
             long nz = ax * by - ay * bx;
@@ -866,6 +869,15 @@ public final class HullFoundry {
                 }
             }
             offerSlit(high - low, steepness(nx, ny, nz));
+        }
+
+        /** A plane along m through an EDGE cuts the SOLID if m leads out of both its FACES, or into both. */
+        private boolean isPassedBy(int e, long mx, long my, long mz) {
+            int f = 4 * edgeRow[4 * e + 2];
+            int g = 4 * edgeRow[4 * e + 3];
+            long out = planes[f] * mx + planes[f + 1] * my + planes[f + 2] * mz;
+            long back = planes[g] * mx + planes[g + 1] * my + planes[g + 2] * mz;
+            return out <= 0 && back >= 0 || out >= 0 && back <= 0;
         }
     }
 
