@@ -499,17 +499,24 @@ public final class HullFoundry {
             return true;
         }
 
-        /** The box of the ways from point o to i, j and k: above 0 if i, j, k go round with the clock, seen from o. */
+        /** Six times the volume between four points: above 0 if i, j, k go round with the clock, seen from o. */
         long boxOf(int o, int i, int j, int k) {
-            long ax = x[i] - x[o];
-            long ay = y[i] - y[o];
-            long az = z[i] - z[o];
-            long bx = x[j] - x[o];
-            long by = y[j] - y[o];
-            long bz = z[j] - z[o];
-            return (ay * bz - az * by) * (x[k] - x[o])
-                + (az * bx - ax * bz) * (y[k] - y[o])
-                + (ax * by - ay * bx) * (z[k] - z[o]);
+            return acrossX(o, i, j) * (x[k] - x[o])
+                + acrossY(o, i, j) * (y[k] - y[o])
+                + acrossZ(o, i, j) * (z[k] - z[o]);
+        }
+
+        /** The way across the plane of three points, which points to an eye that sees them against the clock. */
+        long acrossX(int o, int i, int j) {
+            return (long) (y[i] - y[o]) * (z[j] - z[o]) - (long) (z[i] - z[o]) * (y[j] - y[o]);
+        }
+
+        long acrossY(int o, int i, int j) {
+            return (long) (z[i] - z[o]) * (x[j] - x[o]) - (long) (x[i] - x[o]) * (z[j] - z[o]);
+        }
+
+        long acrossZ(int o, int i, int j) {
+            return (long) (x[i] - x[o]) * (y[j] - y[o]) - (long) (y[i] - y[o]) * (x[j] - x[o]);
         }
     }
 
@@ -656,15 +663,9 @@ public final class HullFoundry {
 
         /** The AREA of a triangle of CORNERS, drawn out by how steep its FACE is; below 0 if it goes with the clock. */
         private long facing(int f, int i, int j, int k) {
-            long ax = corners.x[j] - corners.x[i];
-            long ay = corners.y[j] - corners.y[i];
-            long az = corners.z[j] - corners.z[i];
-            long bx = corners.x[k] - corners.x[i];
-            long by = corners.y[k] - corners.y[i];
-            long bz = corners.z[k] - corners.z[i];
-            return planes[4 * f] * (ay * bz - az * by)
-                + planes[4 * f + 1] * (az * bx - ax * bz)
-                + planes[4 * f + 2] * (ax * by - ay * bx);
+            return planes[4 * f] * corners.acrossX(i, j, k)
+                + planes[4 * f + 1] * corners.acrossY(i, j, k)
+                + planes[4 * f + 2] * corners.acrossZ(i, j, k);
         }
 
         /** 'faceAt' is a table to write on: the FACE whose RING goes on from one CORNER to another. */
@@ -725,7 +726,7 @@ public final class HullFoundry {
             return addUpPieces(axis);
         }
 
-        /** Cuts the SOLID into pieces of four CORNERS, all of them with CORNER 0; axis 3 counts each piece's size alone. */
+        /** Cuts the SOLID into pieces of four CORNERS, all with CORNER 0; axis 3 counts each piece's size alone. */
         private long addUpPieces(int axis) {
             if (kind != 4) {
                 return 0;
@@ -906,11 +907,13 @@ public final class HullFoundry {
 
         /** A fourth knot off the plane of the first three. */
         void addProp() {
-            reckonPlane(0, 1, 2, 0);
-            int alongX = planes[0] != 0 ? 1 : 0;
-            int alongY = planes[0] == 0 && planes[1] != 0 ? 1 : 0;
-            int alongZ = planes[0] == 0 && planes[1] == 0 ? 1 : 0;
-            knots.put(knots.x[0] + alongX, knots.y[0] + alongY, knots.z[0] + alongZ);
+            if (knots.acrossX(0, 1, 2) != 0) {
+                knots.put(knots.x[0] + 1, knots.y[0], knots.z[0]);
+            } else if (knots.acrossY(0, 1, 2) != 0) {
+                knots.put(knots.x[0], knots.y[0] + 1, knots.z[0]);
+            } else {
+                knots.put(knots.x[0], knots.y[0], knots.z[0] + 1);
+            }
         }
 
         void beginWithFour() {
@@ -976,28 +979,18 @@ public final class HullFoundry {
             if (triangles >= MOST_TRIANGLES) {
                 return;
             }
+            int a = (int) knots.acrossX(u, v, w);
+            int b = (int) knots.acrossY(u, v, w);
+            int c = (int) knots.acrossZ(u, v, w);
             tips[3 * triangles] = u;
             tips[3 * triangles + 1] = v;
             tips[3 * triangles + 2] = w;
+            planes[4 * triangles] = a;
+            planes[4 * triangles + 1] = b;
+            planes[4 * triangles + 2] = c;
+            planes[4 * triangles + 3] = a * knots.x[u] + b * knots.y[u] + c * knots.z[u];
             isSettled[triangles] = false;
-            reckonPlane(u, v, w, triangles);
             triangles++;
-        }
-
-        private void reckonPlane(int u, int v, int w, int t) {
-            int ax = knots.x[v] - knots.x[u];
-            int ay = knots.y[v] - knots.y[u];
-            int az = knots.z[v] - knots.z[u];
-            int bx = knots.x[w] - knots.x[u];
-            int by = knots.y[w] - knots.y[u];
-            int bz = knots.z[w] - knots.z[u];
-            int a = ay * bz - az * by;
-            int b = az * bx - ax * bz;
-            int c = ax * by - ay * bx;
-            planes[4 * t] = a;
-            planes[4 * t + 1] = b;
-            planes[4 * t + 2] = c;
-            planes[4 * t + 3] = a * knots.x[u] + b * knots.y[u] + c * knots.z[u];
         }
     }
 
@@ -1031,6 +1024,8 @@ public final class HullFoundry {
                 return REFUSED;
             }
             fill(out, kind);
+            out.layRings();
+            out.layEdges(faceAt);
             return kind;
         }
 
@@ -1048,27 +1043,26 @@ public final class HullFoundry {
             if (!stepOff(a, b, 0, ez, -ey) && !stepOff(a, b, -ez, 0, ex) && !stepOff(a, b, ey, -ex, 0)) {
                 return 2;
             }
-            int fx = knots.x[2] - knots.x[0];
-            int fy = knots.y[2] - knots.y[0];
-            int fz = knots.z[2] - knots.z[0];
-            return stepOff(a, b, ey * fz - ez * fy, ez * fx - ex * fz, ex * fy - ey * fx) ? 4 : 3;
+            boolean isFlat = !stepOff(a, b, knots.acrossX(0, 1, 2), knots.acrossY(0, 1, 2), knots.acrossZ(0, 1, 2));
+            return isFlat ? 3 : 4;
         }
 
         /** Takes a CORNER that is not level with the first one along m, if there is one. */
-        private boolean stepOff(Points a, Points b, int mx, int my, int mz) {
+        private boolean stepOff(Points a, Points b, long mx, long my, long mz) {
             long level = shell.knots.along(0, mx, my, mz);
             seek(a, b, mx, my, mz);
-            if ((long) mx * px + (long) my * py + (long) mz * pz == level) {
+            if (mx * px + my * py + mz * pz == level) {
                 seek(a, b, -mx, -my, -mz);
             }
-            if ((long) mx * px + (long) my * py + (long) mz * pz == level) {
+            if (mx * px + my * py + mz * pz == level) {
                 return false;
             }
             take();
             return true;
         }
 
-        private void seek(Points a, Points b, int mx, int my, int mz) {
+        /** The sum farthest along m. */
+        private void seek(Points a, Points b, long mx, long my, long mz) {
             int i = a.farthest(mx, my, mz);
             int j = b.farthest(mx, my, mz);
             px = a.x[i] + b.x[j];
@@ -1126,8 +1120,6 @@ public final class HullFoundry {
                     out.addPlane(-a, -b, -c, -d);
                 }
             }
-            out.layRings();
-            out.layEdges(faceAt);
         }
     }
 
