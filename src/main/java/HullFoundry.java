@@ -838,7 +838,10 @@ public final class HullFoundry {
             }
         }
 
-        /** Counts two EDGES if all CORNERS lie between the planes through them. */
+        /**
+         * Counts two EDGES if each lies on the SOLID's bounds in the plane through it along the other one: then these
+         * are two planes with the SOLID between them, or one and the same, or the EDGES lie the same way.
+         */
         private void offerEdges(int e, int g) {
             int u = edgeRow[4 * e];
             int v = edgeRow[4 * e + 1];
@@ -856,23 +859,13 @@ public final class HullFoundry {
             long nx = ay * bz - az * by;
             long ny = az * bx - ax * bz;
             long nz = ax * by - ay * bx;
-            long here = corners.along(u, nx, ny, nz);
-            long there = corners.along(w, nx, ny, nz);
-            if (here == there) {
-                return;
+            long between = corners.along(u, nx, ny, nz) - corners.along(w, nx, ny, nz);
+            if (between != 0) {
+                offerSlit(between, steepness(nx, ny, nz));
             }
-            long low = Math.min(here, there);
-            long high = Math.max(here, there);
-            for (int k = 0; k < corners.size; k++) {
-                long height = corners.along(k, nx, ny, nz);
-                if (height < low || height > high) {
-                    return;
-                }
-            }
-            offerSlit(high - low, steepness(nx, ny, nz));
         }
 
-        /** A plane along m through an EDGE cuts the SOLID if m leads out of both its FACES, or into both. */
+        /** Whether an EDGE's plane along m has the SOLID on one side: not if m leads out of both FACES or into both. */
         private boolean isPassedBy(int e, long mx, long my, long mz) {
             int f = 4 * edgeRow[4 * e + 2];
             int g = 4 * edgeRow[4 * e + 3];
