@@ -93,7 +93,7 @@ public final class BuildTest {
         due("4 others", Check.make(f, 3, 3, 0, 0, 0, 1, 0, 0, 0, 1, 0, 0, 0, 1), 4);
         due("4 nothing", Check.make(f, 3, 3), 0);
         due("4 nothing, count", f.count(3, 1), 0);
-        due("4 farthest", Check.make(f, 7, 7, Check.box(-100, -100, -100, 200)), 4);
+        due("4 farthest", Check.make(f, 7, 7, Rows.box(-100, -100, -100, 200)), 4);
         due("4 farthest, volume", f.volume(7), 48000000);
         due("4 no such SOLID", f.solid(8, 0), -1);
         due("4 no such SOLID", f.solid(-1, 0), -1);
@@ -129,7 +129,7 @@ public final class BuildTest {
         due("5 undo", f.undo(), 7);
         due("5 undo", f.undo(), 6);
         due("5 taken back", f.corner(0, 0, 0), 0);
-        Check.make(f, 1, Check.prism());
+        Check.make(f, 1, Rows.prism());
         due("5 24", f.count(1, 1), 24);
         long volume = f.volume(1);
         due("5 25", f.grow(1, 0, -1, 3), -2);
@@ -137,13 +137,13 @@ public final class BuildTest {
         due("5 refused: 24", f.count(1, 1), 24);
         due("5 refused is no change", f.undo(), 6);
         due("5 the SOLID before", f.count(1, 1), 0);
-        due("5 again", Check.make(f, 1, Check.prism()), 4);
+        due("5 again", Check.make(f, 1, Rows.prism()), 4);
         due("5 on the bounds", f.grow(1, 0, 20, 7), 4);
     }
 
     private static void promise6Count() {
         HullFoundry f = new HullFoundry();
-        int[][] kinds = {{}, {1, 2, 3}, {1, 2, 3, 4, 5, 6}, {0, 0, 0, 1, 0, 0, 0, 1, 0}, Check.box(0, 0, 0, 3)};
+        int[][] kinds = {{}, {1, 2, 3}, {1, 2, 3, 4, 5, 6}, {0, 0, 0, 1, 0, 0, 0, 1, 0}, Rows.box(0, 0, 0, 3)};
         int[][] counts = {{0, 0, 0, 0}, {1, 1, 0, 0}, {2, 2, 1, 0}, {3, 3, 3, 2}, {4, 8, 12, 6}};
         for (int kind = 0; kind < 5; kind++) {
             Check.make(f, kind, kinds[kind]);
@@ -155,7 +155,7 @@ public final class BuildTest {
         }
         due("6 no such", f.count(8, 0), -1);
         due("6 no such", f.count(-1, 0), -1);
-        Check.make(f, 5, Check.prism());
+        Check.make(f, 5, Rows.prism());
         int[] prism = {4, 24, 36, 14};
         for (int what = 0; what < 4; what++) {
             due("6 prism", f.count(5, what), prism[what]);
@@ -214,7 +214,7 @@ public final class BuildTest {
 
     private static void promise9Face() {
         HullFoundry f = new HullFoundry();
-        Check.make(f, 0, Check.box(1, 1, 1, 2));
+        Check.make(f, 0, Rows.box(1, 1, 1, 2));
         // CORNERS by bits x y z; each RING from its first CORNER, against the clock from outside
         long[][] box = {
             {-1, 0, 0, -1, 4, 8, 0, 1, 3, 2}, {0, -1, 0, -1, 4, 8, 0, 4, 5, 1}, {0, 0, -1, -1, 4, 8, 0, 2, 6, 4},

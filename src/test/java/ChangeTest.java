@@ -40,7 +40,7 @@ public final class ChangeTest {
         Check.make(f, 1, 1, -100, -100, -100);
         due("20 all across", f.move(1, 200, 200, 200), true);
         dueCorner(f, "20 all across", 1, 0, 100, 100, 100);
-        Check.make(f, 2, Check.box(0, 0, 0, 2));
+        Check.make(f, 2, Rows.box(0, 0, 0, 2));
         f.move(2, -3, 0, 0);
         due("20 faces go along", f.face(2, 0, 3), 3);
         due("20 faces go along", f.face(2, 5, 3), -1);
@@ -99,7 +99,7 @@ public final class ChangeTest {
 
     private static void promise23Copy() {
         HullFoundry f = new HullFoundry();
-        Check.make(f, 0, Check.box(0, 0, 0, 2));
+        Check.make(f, 0, Rows.box(0, 0, 0, 2));
         due("23 copy", f.copy(0, 7), true);
         due("23 copy", f.same(0, 7), 1);
         due("23 copy", f.count(7, 2), 12);

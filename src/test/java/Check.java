@@ -1,5 +1,8 @@
 /** Counts answers that are not as due and tells them. */
 final class Check {
+    /** Numbers that no TRAY and no SOLID bears. */
+    static final int[] NO_SLOTS = {-1, 8, Integer.MIN_VALUE, Integer.MAX_VALUE};
+
     private static int asked = 0;
     private static int wrong = 0;
 
@@ -16,6 +19,22 @@ final class Check {
 
     static void due(String what, boolean got, boolean want) {
         due(what, got ? 1 : 0, want ? 1 : 0);
+    }
+
+    /** A SOLID has just these CORNERS, three numbers each. */
+    static void dueCorners(HullFoundry f, String what, int s, int... numbers) {
+        due(what + ": how many CORNERS", f.count(s, 1), numbers.length / 3);
+        for (int i = 0; i < numbers.length; i++) {
+            due(what + ": CORNER " + i / 3 + " axis " + i % 3, f.corner(s, i / 3, i % 3), numbers[i]);
+        }
+    }
+
+    /** A FACE has just this a, b, c, d, size of its RING, AREA and RING. */
+    static void dueFace(HullFoundry f, String what, int s, int k, long... numbers) {
+        for (int i = 0; i < numbers.length; i++) {
+            due(what + ": FACE " + k + " what " + i, f.face(s, k, i), numbers[i]);
+        }
+        due(what + ": FACE " + k + " has no more", f.face(s, k, numbers.length), -2000000000L);
     }
 
     static void end() {
@@ -39,25 +58,10 @@ final class Check {
         return make(f, s, 7, numbers);
     }
 
-    static int[] box(int x, int y, int z, int width) {
-        int[] numbers = new int[24];
-        for (int k = 0; k < 8; k++) {
-            numbers[3 * k] = x + (k >> 2 & 1) * width;
-            numbers[3 * k + 1] = y + (k >> 1 & 1) * width;
-            numbers[3 * k + 2] = z + (k & 1) * width;
-        }
-        return numbers;
-    }
-
-    /** Two parabolas side by side: 24 CORNERS. */
-    static int[] prism() {
-        int[] numbers = new int[72];
-        for (int k = 0; k < 24; k++) {
-            int x = k % 12 - 6;
-            numbers[3 * k] = x;
-            numbers[3 * k + 1] = x * x;
-            numbers[3 * k + 2] = k < 12 ? 0 : 7;
-        }
-        return numbers;
+    /** A new object whose TRAY 0 has these POINTS and whose SOLID 0 is made of them. */
+    static HullFoundry foundryWith(int... numbers) {
+        HullFoundry f = new HullFoundry();
+        make(f, 0, 0, numbers);
+        return f;
     }
 }

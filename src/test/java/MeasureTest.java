@@ -1,9 +1,5 @@
 /** Promises 10 to 19: in, side, volume, middle, far, width, sum, apart, near, same. */
 public final class MeasureTest {
-    private static final int[] CORNER_PIECE = {0, 0, 0, 1, 0, 0, 0, 1, 0, 0, 0, 1};
-    /** Every two CORNERS are equally far apart. */
-    private static final int[] EVEN_PIECE = {0, 0, 0, 1, 1, 0, 1, 0, 1, 0, 1, 1};
-
     private static void due(String what, long got, long want) {
         Check.due(what, got, want);
     }
@@ -29,7 +25,7 @@ public final class MeasureTest {
         due("10 KIND 3, in its plane outside", f.in(3, 5, -1, 0, 1), 0);
         due("10 KIND 3, in its plane just outside", f.in(3, 2000, 2001, -1, 1000), 0);
         due("10 KIND 3, off its plane", f.in(3, 1, 1, 1, 1), 0);
-        Check.make(f, 4, Check.box(-100, -100, -100, 200));
+        Check.make(f, 4, Rows.box(-100, -100, -100, 200));
         due("10 KIND 4, within", f.in(4, 99999, -99999, 99999, 1000), 2);
         due("10 KIND 4, on a face", f.in(4, 100000, -99999, 99999, 1000), 1);
         due("10 KIND 4, on an edge", f.in(4, 100, -100, 0, 1), 1);
@@ -50,7 +46,7 @@ public final class MeasureTest {
     private static void promise11Side() {
         HullFoundry f = new HullFoundry();
         due("11 KIND 0", f.side(0, 1, 0, 0, 0), 0);
-        Check.make(f, 1, CORNER_PIECE);
+        Check.make(f, 1, Rows.CORNER_PIECE);
         due("11 all below", f.side(1, 1, 1, 1, 2), 1);
         due("11 below and on", f.side(1, 1, 1, 1, 1), 3);
         due("11 on and above", f.side(1, 1, 1, 1, 0), 6);
@@ -81,7 +77,7 @@ public final class MeasureTest {
         due("12 KIND 3", f.volume(0), 0);
         f.grow(0, 2, 9, 7);
         due("12 KIND 4", f.volume(0), 48);
-        Check.make(f, 1, Check.box(-7, 20, 3, 5));
+        Check.make(f, 1, Rows.box(-7, 20, 3, 5));
         due("12 box", f.volume(1), 6 * 125);
         due("12 no such", f.volume(8), -1);
         due("12 no such", f.volume(-1), -1);
@@ -95,7 +91,7 @@ public final class MeasureTest {
             due("13 piece, above", f.middle(0, axis, 0), piece[2 * axis]);
             due("13 piece, below", f.middle(0, axis, 1), piece[2 * axis + 1]);
         }
-        Check.make(f, 1, Check.box(-2, -3, 4, 4));
+        Check.make(f, 1, Rows.box(-2, -3, 4, 4));
         long[] box = {0, 1, -1, 1, 6, 1};
         for (int axis = 0; axis < 3; axis++) {
             due("13 box, above", f.middle(1, axis, 0), box[2 * axis]);
@@ -124,7 +120,7 @@ public final class MeasureTest {
             due("14 KIND 2", f.far(0, what), line[what]);
         }
         due("14 what", f.far(0, -1), -1);
-        Check.make(f, 1, EVEN_PIECE);
+        Check.make(f, 1, Rows.EVEN_PIECE);
         due("14 all even", f.far(1, 0), 0);
         due("14 all even", f.far(1, 1), 1);
         due("14 all even", f.far(1, 2), 2);
@@ -140,7 +136,7 @@ public final class MeasureTest {
         due("14 not with the first CORNER", f.far(2, 0), 1);
         due("14 not with the first CORNER", f.far(2, 1), 2);
         due("14 not with the first CORNER", f.far(2, 2), 281);
-        Check.make(f, 3, Check.box(-100, -100, -100, 200));
+        Check.make(f, 3, Rows.box(-100, -100, -100, 200));
         due("14 box", f.far(3, 0), 0);
         due("14 box", f.far(3, 1), 7);
         due("14 box", f.far(3, 2), 120000);
@@ -150,20 +146,20 @@ public final class MeasureTest {
 
     private static void promise15Width() {
         HullFoundry f = new HullFoundry();
-        Check.make(f, 0, CORNER_PIECE);
+        Check.make(f, 0, Rows.CORNER_PIECE);
         due("15 from a FACE, above", f.width(0, 0), 1);
         due("15 from a FACE, below", f.width(0, 1), 3);
-        Check.make(f, 1, EVEN_PIECE);
+        Check.make(f, 1, Rows.EVEN_PIECE);
         due("15 between EDGES, above", f.width(1, 0), 1);
         due("15 between EDGES, below", f.width(1, 1), 1);
         f.grow(1, 0, 0, -2);
         f.undo();
         due("15 as before", f.width(1, 0), 1);
-        Check.make(f, 2, Check.box(0, 0, 0, 7));
+        Check.make(f, 2, Rows.box(0, 0, 0, 7));
         due("15 box", f.width(2, 0), 49);
         f.grow(2, 3, 3, 20);
         due("15 after a change", f.width(2, 0), 49);
-        Check.make(f, 2, Check.box(0, 0, 0, 3));
+        Check.make(f, 2, Rows.box(0, 0, 0, 3));
         due("15 another one in its place", f.width(2, 0), 9);
         due("15 what", f.width(0, 2), -1);
         due("15 what", f.width(0, -1), -1);
@@ -176,7 +172,7 @@ public final class MeasureTest {
 
     private static void promise16Sum() {
         HullFoundry f = new HullFoundry();
-        Check.make(f, 0, Check.box(1, 2, 3, 2));
+        Check.make(f, 0, Rows.box(1, 2, 3, 2));
         Check.make(f, 1, 1, 10, 0, 0);
         due("16 with one POINT", f.sum(0, 1, 2), 4);
         due("16 with one POINT: moved", f.corner(2, 0, 0), 11);
@@ -193,14 +189,14 @@ public final class MeasureTest {
         due("16 nothing is a change", f.count(5, 0), 0);
         due("16 nothing is taken back", f.undo(), 7);
         due("16 nothing is taken back", f.count(5, 1), 4);
-        Check.make(f, 6, Check.box(0, 0, 0, 51));
+        Check.make(f, 6, Rows.box(0, 0, 0, 51));
         due("16 beyond", f.sum(6, 6, 6), -2);
         due("16 beyond: as it was", f.corner(6, 7, 0), 51);
         due("16 beyond is no change", f.undo(), 7);
-        Check.make(f, 6, Check.box(0, 0, 0, 50));
+        Check.make(f, 6, Rows.box(0, 0, 0, 50));
         due("16 just not beyond", f.sum(6, 6, 6), 4);
         due("16 just not beyond", f.corner(6, 7, 2), 100);
-        Check.make(f, 5, Check.prism());
+        Check.make(f, 5, Rows.prism());
         Check.make(f, 7, 7, 0, 0, 0, 0, 0, 1);
         due("16 24 CORNERS", f.sum(5, 7, 4), 4);
         due("16 24 CORNERS", f.count(4, 1), 24);
@@ -247,7 +243,7 @@ public final class MeasureTest {
         dueNear(f, "18 POINT on a line", 0, 1);
         Check.make(f, 1, 1, -1, -1, 0, 2, 0, 0, 0, 2, 0);
         dueNear(f, "18 POINT in a figure", 0, 1);
-        Check.make(f, 1, Check.box(-1, -1, -1, 2));
+        Check.make(f, 1, Rows.box(-1, -1, -1, 2));
         dueNear(f, "18 POINT within", 0, 1);
         Check.make(f, 0, 0, -5, 0, 0, 5, 0, 0);
         Check.make(f, 1, 1, 0, -3, 2, 1, 3, 3);
@@ -260,16 +256,16 @@ public final class MeasureTest {
         dueNear(f, "18 lines that touch", 0, 1);
         Check.make(f, 1, 1, 0, 1, 1, 0, -1, 2, 1, 0, -5);
         dueNear(f, "18 a line through a figure", 0, 1);
-        Check.make(f, 0, Check.box(0, 0, 0, 2));
-        Check.make(f, 1, Check.box(2, 2, 2, 2));
+        Check.make(f, 0, Rows.box(0, 0, 0, 2));
+        Check.make(f, 1, Rows.box(2, 2, 2, 2));
         dueNear(f, "18 boxes that share a CORNER", 0, 1);
-        Check.make(f, 1, Check.box(3, 0, 0, 2));
+        Check.make(f, 1, Rows.box(3, 0, 0, 2));
         dueNear(f, "18 boxes face to face", 1, 1);
-        Check.make(f, 1, Check.box(-100, -100, -100, 1));
+        Check.make(f, 1, Rows.box(-100, -100, -100, 1));
         f.move(0, 98, 98, 98);
         dueNear(f, "18 boxes as far as can be", 3 * 197 * 197, 1);
-        Check.make(f, 0, Check.box(0, 0, 0, 10));
-        Check.make(f, 1, Check.box(4, 4, 4, 1));
+        Check.make(f, 0, Rows.box(0, 0, 0, 10));
+        Check.make(f, 1, Rows.box(4, 4, 4, 1));
         dueNear(f, "18 one within the other", 0, 1);
         due("18 what", f.near(0, 1, 2), -1);
         due("18 what", f.near(0, 1, -1), -1);

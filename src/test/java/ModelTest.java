@@ -5,8 +5,7 @@ import java.util.Random;
 
 /** Long runs of mixed calls, each answer held against Model's; the seeds are fixed. */
 public final class ModelTest {
-    /** A ring of 24 corners in a plane: the sums of ways (x, y), steeper and steeper; every x is four times a whole number. */
-    private static final int[] RING = ring();
+    private static final int[] RING = Rows.ring();
 
     private static int wrong = 0;
     private static long calls = 0;
@@ -24,58 +23,10 @@ public final class ModelTest {
         spread = spreads[(int) (seed % spreads.length)];
     }
 
-    private static int[] ring() {
-        int[][] ways = {{4, 0}, {8, 1}, {4, 1}, {4, 2}, {4, 3}, {4, 7}};
-        int[] row = new int[48];
-        int x = -20;
-        int y = -30;
-        for (int k = 0; k < 24; k++) {
-            row[2 * k] = x;
-            row[2 * k + 1] = y;
-            int[] way = ways[k % 6];
-            switch (k / 6) {
-                case 0: x += way[0]; y += way[1]; break;
-                case 1: x -= 4 * way[1]; y += way[0] / 4; break;
-                case 2: x -= way[0]; y -= way[1]; break;
-                default: x += 4 * way[1]; y -= way[0] / 4; break;
-            }
-        }
-        return row;
-    }
-
-    static long ask(HullFoundry f, String name, int[] v) {
-        switch (name) {
-            case "tray": return f.tray(v[0], v[1]) ? 1 : 0;
-            case "point": return f.point(v[0], v[1], v[2], v[3], v[4]) ? 1 : 0;
-            case "solid": return f.solid(v[0], v[1]);
-            case "grow": return f.grow(v[0], v[1], v[2], v[3]);
-            case "count": return f.count(v[0], v[1]);
-            case "corner": return f.corner(v[0], v[1], v[2]);
-            case "edge": return f.edge(v[0], v[1], v[2]);
-            case "face": return f.face(v[0], v[1], v[2]);
-            case "in": return f.in(v[0], v[1], v[2], v[3], v[4]);
-            case "side": return f.side(v[0], v[1], v[2], v[3], v[4]);
-            case "volume": return f.volume(v[0]);
-            case "middle": return f.middle(v[0], v[1], v[2]);
-            case "far": return f.far(v[0], v[1]);
-            case "width": return f.width(v[0], v[1]);
-            case "sum": return f.sum(v[0], v[1], v[2]);
-            case "apart": return f.apart(v[0], v[1]);
-            case "near": return f.near(v[0], v[1], v[2]);
-            case "same": return f.same(v[0], v[1]);
-            case "move": return f.move(v[0], v[1], v[2], v[3]) ? 1 : 0;
-            case "mirror": return f.mirror(v[0], v[1]) ? 1 : 0;
-            case "turn": return f.turn(v[0], v[1]) ? 1 : 0;
-            case "copy": return f.copy(v[0], v[1]) ? 1 : 0;
-            case "undo": return f.undo();
-            default: throw new IllegalStateException(name);
-        }
-    }
-
     private long both(String name, int... v) {
         calls++;
         history.add(name + Arrays.toString(v));
-        long got = ask(foundry, name, v);
+        long got = Calls.ask(foundry, name, v);
         long want = model.call(name, v);
         if (got != want) {
             wrong++;
@@ -130,9 +81,9 @@ public final class ModelTest {
             case 2:
                 return ball();
             case 3:
-                return new int[] {RING[2 * k], RING[2 * k + 1], p[0] * RING[2 * k] / 4};
+                return new int[] {RING[3 * k], RING[3 * k + 1], p[0] * RING[3 * k] / 4};
             case 4:
-                return new int[] {RING[4 * (k / 2)], k % 2 == 0 ? -spread : spread, RING[4 * (k / 2) + 1]};
+                return new int[] {RING[6 * (k / 2)], k % 2 == 0 ? -spread : spread, RING[6 * (k / 2) + 1]};
             case 5:
                 return new int[] {farOut(), farOut(), farOut()};
             default:

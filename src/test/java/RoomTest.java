@@ -3,8 +3,6 @@ import java.util.Random;
 
 /** What a run of 512 calls makes: an object's rows once, nothing in its calls; and any arguments at all end in an answer. */
 public final class RoomTest {
-    private static final String[] NAMES = {"tray", "point", "solid", "grow", "count", "corner", "edge", "face", "in", "side",
-        "volume", "middle", "far", "width", "sum", "apart", "near", "same", "move", "mirror", "turn", "copy", "undo"};
     private static final int[] ODD = {Integer.MIN_VALUE, Integer.MIN_VALUE + 1, -2000000, -1000001, -1001, -101, -100, -2, -1,
         0, 1, 2, 3, 4, 5, 6, 7, 8, 9, 23, 24, 25, 100, 101, 1000, 1001, 1000000, 1000001, Integer.MAX_VALUE - 1,
         Integer.MAX_VALUE};
@@ -51,7 +49,7 @@ public final class RoomTest {
                 for (int k = 0; k < v.length; k++) {
                     v[k] = dice.nextInt(3) == 0 ? ODD[dice.nextInt(ODD.length)] : dice.nextInt(9) - 1;
                 }
-                ModelTest.ask(f, NAMES[dice.nextInt(NAMES.length)], v);
+                Calls.ask(f, Calls.NAMES[dice.nextInt(Calls.NAMES.length)], v);
                 answers++;
             }
         }
