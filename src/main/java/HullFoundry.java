@@ -346,8 +346,11 @@ public final class HullFoundry {
         return number >= -most && number <= most;
     }
 
+    /** Asks no one else, because Hull comes here seven calls deep. */
     private static boolean isPoint(int x, int y, int z) {
-        return isWithin(x, FARTHEST) && isWithin(y, FARTHEST) && isWithin(z, FARTHEST);
+        return x >= -FARTHEST && x <= FARTHEST
+            && y >= -FARTHEST && y <= FARTHEST
+            && z >= -FARTHEST && z <= FARTHEST;
     }
 
     /** A greatest common divisor of numbers not below 0. */

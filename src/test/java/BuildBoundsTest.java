@@ -303,8 +303,10 @@ public final class BuildBoundsTest {
     // promise 6: "0 KIND, 1 CORNERS, 2 EDGES, 3 FACES"
     private static void countOfLeastAndMost() {
         HullFoundry f = new HullFoundry();
-        int[][] rows = {{}, {9, 9, 9}, {0, 0, 0, 1, 0, 0}, {0, 0, 0, 1, 0, 0, 0, 1, 0}, Rows.ring(), Rows.CORNER_PIECE, Rows.BALL};
-        int[][] counts = {{0, 0, 0, 0}, {1, 1, 0, 0}, {2, 2, 1, 0}, {3, 3, 3, 2}, {3, 24, 24, 2}, {4, 4, 6, 4}, {4, 24, 66, 44}};
+        int[][] rows = {{}, {9, 9, 9}, {0, 0, 0, 1, 0, 0}, {0, 0, 0, 1, 0, 0, 0, 1, 0}, Rows.ring(), Rows.CORNER_PIECE,
+            Rows.BALL};
+        int[][] counts = {{0, 0, 0, 0}, {1, 1, 0, 0}, {2, 2, 1, 0}, {3, 3, 3, 2}, {3, 24, 24, 2}, {4, 4, 6, 4},
+            {4, 24, 66, 44}};
         for (int i = 0; i < rows.length; i++) {
             Check.make(f, i, i, rows[i]);
             for (int what = 0; what < 4; what++) {

@@ -1,3 +1,5 @@
+import java.util.Arrays;
+
 /** Promises 20 to 24 and the 512 calls at their bounds: each sentence of the document that names one has a method here. */
 public final class ChangeBoundsTest {
     private static final int LEAST = Integer.MIN_VALUE;
@@ -217,7 +219,8 @@ public final class ChangeBoundsTest {
             for (int more = kept - 1; more >= 0; more--) {
                 due("24 of " + done + ": more", f.undo(), more);
                 int x = done - kept + more;
-                Check.dueCorners(f, "24 of " + done, 0, x == 0 ? new int[0] : x == 1 ? new int[] {1, 0, 0} : new int[] {1, 0, 0, x, 0, 0});
+                int[] line = {1, 0, 0, x, 0, 0};
+                Check.dueCorners(f, "24 of " + done, 0, Arrays.copyOf(line, 3 * Math.min(x, 2)));
             }
             due("24 of " + done + ": none left", f.undo(), -1);
         }

@@ -68,26 +68,35 @@ public final class FaceTest {
         String code = text.replaceAll("(?s)/\\*.*?\\*/", "").replaceAll("//[^\n]*", "");
         String[] never = {"\\bthrow", "\\btry\\b", "\\bcatch\\b", "\\bsynchronized\\b", "\\bassert\\b", "->", "::",
             "static\\s*\\{", "\\bpackage\\b", "Exact\\b", "\\bdouble\\b", "\\bfloat\\b", "\"", "\\binstanceof\\b",
-            "System\\.(?!arraycopy)", "Math\\.(?!(abs|min|max)\\b)", "Arrays\\.(?!fill\\b)(?!;)", "import (?!java\\.util\\.Arrays;)",
-            "while \\(true\\)", "for \\(;;"};
+            "System\\.(?!arraycopy)", "Math\\.(?!(abs|min|max)\\b)", "Arrays\\.(?!fill\\b)(?!;)",
+            "import (?!java\\.util\\.Arrays;)", "while \\(true\\)", "for \\(;;"};
         for (String pattern : never) {
             Check.due("text has " + pattern, Pattern.compile(pattern).matcher(code).find(), false);
         }
-        int start = -1;
-        String[] lines = text.split("\n");
-        for (int i = 0; i < lines.length; i++) {
-            if (lines[i].matches(" {4,8}[a-z].*\\) \\{")) {
-                start = i;
-            } else if (lines[i].matches(" {4,8}\\}") && start >= 0) {
-                Check.due("length of the method at line " + (start + 1), i - start < 60, true);
-                start = -1;
+    }
+
+    /** A method's last line is the first one after its head that is a brace as far in as the head. */
+    private static void lengths() throws Exception {
+        String[] lines = Files.readString(Path.of("src/main/java/HullFoundry.java")).split("\n");
+        int methods = 0;
+        for (int start = 0; start < lines.length; start++) {
+            if (lines[start].matches("(    |        )[a-zA-Z][^=;]*\\) \\{") && !lines[start].matches(" *(if|for|while|switch) .*")) {
+                String last = lines[start].replaceAll("\\S.*", "") + "}";
+                int end = start;
+                while (end < lines.length && !lines[end].equals(last)) {
+                    end++;
+                }
+                Check.due("length of the method at line " + (start + 1), end - start < 60, true);
+                methods++;
             }
         }
+        Check.due("methods were found", methods > 60, true);
     }
 
     public static void main(String[] args) throws Exception {
         face();
         text();
+        lengths();
         Check.end();
     }
 }

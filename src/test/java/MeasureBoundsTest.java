@@ -84,6 +84,57 @@ public final class MeasureBoundsTest {
         due("10 KIND 4, slant FACE", f.in(4, 1, 1, 1, 3), 1);
     }
 
+    private static int inWithStep(HullFoundry f, int[] v, int axis, int step) {
+        int[] w = v.clone();
+        w[axis] += step;
+        return f.in(0, w[0], w[1], w[2], 1000);
+    }
+
+    // the same of KIND 2, along each axis and off it by a thousandth along the others
+    private static void inLineAlongEachAxis() {
+        for (int axis = 0; axis < 3; axis++) {
+            int[] ends = {-7, 8, 9, -7, 8, 9};
+            ends[3 + axis] += 10;
+            HullFoundry f = Check.foundryWith(ends);
+            int[] half = {-7000, 8000, 9000};
+            half[axis] += 5000;
+            for (int sign : new int[] {-1, 1}) {
+                due("10 one end, axis " + axis, inWithStep(f, half, axis, 5000 * sign), 1);
+                due("10 past the end, axis " + axis, inWithStep(f, half, axis, 5001 * sign), 0);
+                due("10 beside, axis " + axis, inWithStep(f, half, (axis + 1) % 3, sign), 0);
+                due("10 beside, axis " + axis, inWithStep(f, half, (axis + 2) % 3, sign), 0);
+            }
+        }
+    }
+
+    /** The sum of a side's two ends, counted so often, and of the CORNER across from it, of a row of three. */
+    private static int[] mix(int[] row, int side, int often, int oftenAcross) {
+        int[] v = new int[3];
+        for (int axis = 0; axis < 3; axis++) {
+            int ends = row[3 * side + axis] + row[3 * ((side + 1) % 3) + axis];
+            v[axis] = often * ends + oftenAcross * row[3 * ((side + 2) % 3) + axis];
+        }
+        return v;
+    }
+
+    // the same of KIND 3, across each side of slanted figures
+    private static void inFigureAcrossEachSide() {
+        int[][] figures = {{-100, -99, -100, 100, 100, -100, 99, -100, 100}, {1, 2, 3, 7, -5, 4, -2, 9, -8},
+            {10, 10, 0, 20, 10, 0, 10, 20, 0}, {5, 0, 5, 5, 9, 5, 5, 0, 9}, {0, 6, 1, 9, 6, 0, 0, 6, 9}};
+        for (int[] row : figures) {
+            HullFoundry f = Check.foundryWith(row);
+            for (int i = 0; i < 3; i++) {
+                int[] on = mix(row, i, 500, 0);
+                int[] out = mix(row, i, 501, -2);
+                int[] in = mix(row, i, 499, 2);
+                due("10 on side " + i, f.in(0, on[0], on[1], on[2], 1000), 1);
+                due("10 just out of side " + i, f.in(0, out[0], out[1], out[2], 1000), 0);
+                due("10 just in from side " + i, f.in(0, in[0], in[1], in[2], 1000), 1);
+                due("10 off the plane", f.in(0, in[0] + 1, in[1] + 1, in[2] + 1, 1000), 0);
+            }
+        }
+    }
+
     // promise 10: "2 within (of KIND 4)"
     private static void inWithin() {
         HullFoundry f = foundryOfKinds();
@@ -270,6 +321,20 @@ public final class MeasureBoundsTest {
         dueWidth(f, "II large numbers", 3, 249677826632809L, 6336717206L);
     }
 
+    // the same, where but one FACE or but two EDGES give it
+    private static void widthOfFirstAndLastParts() {
+        HullFoundry f = Check.foundryWith(Rows.CORNER_PIECE);
+        dueWidth(f, "II the last FACE", 0, 1, 3);
+        f.mirror(0, 3);
+        dueWidth(f, "II the first FACE", 0, 1, 3);
+        Check.make(f, 1, 1, 0, 0, 0, 2, 5, 0, 2, 0, 7, 0, 5, 7);
+        dueWidth(f, "II the first EDGE and the last", 1, 4, 1);
+        Check.make(f, 2, 2, 0, 0, 0, 5, 2, 0, 5, 0, 7, 0, 2, 7);
+        dueWidth(f, "II the second EDGE and the fifth", 2, 4, 1);
+        Check.make(f, 3, 3, 0, 0, 0, 5, 7, 0, 5, 0, 2, 0, 7, 2);
+        dueWidth(f, "II the third EDGE and the fourth", 3, 4, 1);
+    }
+
     // II: "(a fraction in lowest terms)"
     private static void widthInLowestTerms() {
         HullFoundry f = Check.foundryWith(Rows.CORNER_PIECE);
@@ -308,6 +373,8 @@ public final class MeasureBoundsTest {
         inWithFarNumbers();
         inNo();
         inOn();
+        inLineAlongEachAxis();
+        inFigureAcrossEachSide();
         inWithin();
         sideWithLeastAndMost();
         sideThatCannotBe();
@@ -319,6 +386,7 @@ public final class MeasureBoundsTest {
         farOfSeveral();
         farThatIsNone();
         widthLeastAndMost();
+        widthOfFirstAndLastParts();
         widthInLowestTerms();
         widthThatIsNone();
         Check.end();

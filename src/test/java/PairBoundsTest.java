@@ -22,9 +22,10 @@ public final class PairBoundsTest {
     // promise 16: "its KIND", of each two KINDS
     private static void sumOfKinds() {
         HullFoundry f = new HullFoundry();
-        int[][] rows = {{}, {1, 2, 3}, {0, 0, 0, 1, 1, 0}, {0, 0, 0, 1, 0, 0, 0, 1, 0}, Rows.CORNER_PIECE, {0, 0, 0, 0, 0, 2}, {0, 0, 0, 1, 0, 0, 0, 0, 1}};
-        int[][] kinds = {{0, 0, 0, 0, 0, 0, 0}, {0, 1, 2, 3, 4, 2, 3}, {0, 2, 2, 3, 4, 3, 4}, {0, 3, 3, 3, 4, 4, 4}, {0, 4, 4, 4, 4, 4, 4},
-            {0, 2, 3, 4, 4, 2, 3}, {0, 3, 4, 4, 4, 3, 3}};
+        int[][] rows = {{}, {1, 2, 3}, {0, 0, 0, 1, 1, 0}, {0, 0, 0, 1, 0, 0, 0, 1, 0}, Rows.CORNER_PIECE,
+            {0, 0, 0, 0, 0, 2}, {0, 0, 0, 1, 0, 0, 0, 0, 1}};
+        int[][] kinds = {{0, 0, 0, 0, 0, 0, 0}, {0, 1, 2, 3, 4, 2, 3}, {0, 2, 2, 3, 4, 3, 4}, {0, 3, 3, 3, 4, 4, 4},
+            {0, 4, 4, 4, 4, 4, 4}, {0, 2, 3, 4, 4, 2, 3}, {0, 3, 4, 4, 4, 3, 3}};
         for (int a = 0; a < 7; a++) {
             Check.make(f, a, a, rows[a]);
         }
@@ -190,6 +191,17 @@ public final class PairBoundsTest {
         dueNear(foundryWith(row(-100, -100, -99, 100, 99, -100), -100, 100, 100), "II POINT and EDGE", 4768159601L, 79602);
     }
 
+    // the same, of as many CORNERS, EDGES and FACES as can be
+    private static void nearOfMostCorners() {
+        dueNear(foundryWith(Rows.BALL, Rows.box(90, 70, 60, 5)), "II 24 and a box", 5854251, 4502);
+        dueNear(foundryWith(Rows.BALL, Rows.box(-99, -99, -99, 9)), "II 24 and a box", 11296834, 3093);
+        dueNear(foundryWith(Rows.BALL, Rows.box(80, -100, 60, 7)), "II 24 and a box", 8496621, 4630);
+        dueNear(foundryWith(Rows.BALL, 60, 60, 60, 62, 71, 64, 63, 61, 73, 69, 63, 61, 90, 53, 62), "II 24 and five",
+            2698698601L, 26112222);
+        dueNear(foundryWith(Rows.BALL, 70, 66, 61, 79, 69, 62, 72, 77, 65, 73, 67, 74), "II 24 and four",
+            11543998249L, 26112222);
+    }
+
     // II: "(in lowest terms)"
     private static void nearInLowestTerms() {
         dueNear(foundryWith(row(0, 0, 0), 2, 0, 0, 0, 2, 0), "II 8 / 4 is 2", 2, 1);
@@ -267,6 +279,7 @@ public final class PairBoundsTest {
         sharingJustOnePoint();
         sharingMany();
         nearLeastAndMost();
+        nearOfMostCorners();
         nearInLowestTerms();
         nearOfNoSolids();
         sameOrNearlySo();

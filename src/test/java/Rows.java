@@ -36,7 +36,7 @@ final class Rows {
         return numbers;
     }
 
-    /** A flat ring of 24 CORNERS, z 0: sums of ways, each more to the left than the one before; every x is 4 times a whole number. */
+    /** A flat ring of 24 CORNERS, z 0: sums of ways, each more to the left than the one before; four divides every x. */
     static int[] ring() {
         int[][] ways = {{4, 0}, {8, 1}, {4, 1}, {4, 2}, {4, 3}, {4, 7}};
         int[] numbers = new int[72];
