@@ -1,4 +1,4 @@
-/** The terms and promises 1 to 9 at their bounds: each sentence of the document that names one has a method here. */
+/** The terms and promises 1 to 7 at their bounds: each sentence of the document that names one has a method here. */
 public final class BuildBoundsTest {
     private static final long NO_FACE = -2000000000L;
     private static final int[] SLOTS = {0, 7};

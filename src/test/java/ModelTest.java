@@ -59,7 +59,7 @@ public final class ModelTest {
         if (both("tray", t, n) == 0) {
             return;
         }
-        int way = dice.nextInt(8);
+        int way = dice.nextInt(9);
         int[] p = {roll(-3, 3), roll(-3, 3), roll(-3, 3)};
         for (int k = 0; k < n; k++) {
             int[] q = place(way, k, p);
@@ -68,7 +68,7 @@ public final class ModelTest {
         both("solid", slot(), t);
     }
 
-    /** Point k of a tray that is filled one way: in a line, in a plane, on a ball, a ring or two, far out, or anywhere. */
+    /** Point k of a tray that is filled one way: in a line, in a plane, on a ball, rings, far out, or anywhere. */
     private int[] place(int way, int k, int[] p) {
         int[] q = {number(), number(), number()};
         switch (way) {
@@ -86,6 +86,10 @@ public final class ModelTest {
                 return new int[] {RING[6 * (k / 2)], k % 2 == 0 ? -spread : spread, RING[6 * (k / 2) + 1]};
             case 5:
                 return new int[] {farOut(), farOut(), farOut()};
+            case 6:
+                // a rough ring between two tips: a late tip tears off many triangles at once
+                return k < 2 ? new int[] {roll(-40, -20), roll(-20, -14), (2 * k - 1) * roll(1, 40)}
+                    : new int[] {RING[3 * k], RING[3 * k + 1], roll(-1, 1)};
             default:
                 return q;
         }
